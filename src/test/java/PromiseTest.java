@@ -1,4 +1,9 @@
-/** One method for each promise of the document: ordinary inputs, the named edges, wrong inputs. */
+import java.util.function.Supplier;
+
+/**
+ * One method or more for each promise of the document: ordinary inputs, the named edges, wrong
+ * inputs. No object is called more than 512 times, since what it answers then is free.
+ */
 public final class PromiseTest {
     private static final int[] WRONG = {Integer.MIN_VALUE, -1000, -2, -1};
     private static int wrong = 0;
@@ -32,19 +37,27 @@ public final class PromiseTest {
         return x;
     }
 
-    private static CodeSearcher seeking(CodeSearcher x, int... symbols) {
-        while (x.pattern() > 0) {
-            x.shorten();
-        }
+    private static void seek(CodeSearcher x, int... symbols) {
         for (int s : symbols) {
             due("extend(" + s + ")", x.extend(s), true);
         }
+    }
+
+    /** A new object with codes and pattern, each told as a row of digits. */
+    private static CodeSearcher search(String codes, String pattern) {
+        CodeSearcher x = fed(digits(codes));
+        seek(x, digits(pattern));
         return x;
+    }
+
+    private static int[] digits(String row) {
+        return row.chars().map(digit -> digit - '0').toArray();
     }
 
     private static String text(CodeSearcher x) {
         StringBuilder out = new StringBuilder();
-        for (int k = 0; k < x.length(); k++) {
+        int size = x.length();
+        for (int k = 0; k < size; k++) {
             out.append(x.symbol(k));
         }
         return out.toString();
@@ -52,26 +65,42 @@ public final class PromiseTest {
 
     private static String word(CodeSearcher x, int w) {
         StringBuilder out = new StringBuilder();
-        for (int k = 0; k < x.wordLength(w); k++) {
+        int size = x.wordLength(w);
+        for (int k = 0; k < size; k++) {
             out.append(x.wordSymbol(w, k));
         }
         return out.toString();
     }
 
-    /** All that an object tells of itself, so that "changes nothing" can be looked at. */
-    private static String state(CodeSearcher x) {
+    private static String words(CodeSearcher x) {
         StringBuilder out = new StringBuilder();
-        out.append(x.pattern()).append('/').append(x.codes()).append('/').append(x.words());
-        out.append('/').append(text(x));
-        for (int w = 0; w < x.words(); w++) {
-            out.append(' ').append(word(x, w));
-        }
-        out.append(" c").append(x.count()).append(" f").append(x.first()).append(" l").append(x.last());
-        out.append(" t").append(x.tail()).append(" w").append(x.within());
-        for (int k = 0; k < x.codes(); k++) {
-            out.append(" e").append(x.endingIn(k));
+        int size = x.words();
+        for (int w = 0; w < size; w++) {
+            out.append(word(x, w)).append(' ');
         }
         return out.toString();
+    }
+
+    private static String answers(CodeSearcher x) {
+        StringBuilder out = new StringBuilder();
+        int size = x.codes();
+        out.append(size).append(" codes, ending ");
+        for (int k = 0; k < size; k++) {
+            out.append(x.endingIn(k)).append(' ');
+        }
+        out.append("count ").append(x.count()).append(" first ").append(x.first());
+        out.append(" last ").append(x.last()).append(" tail ").append(x.tail());
+        out.append(" within ").append(x.within()).append(" pattern ");
+        int left = x.pattern();
+        for (int i = 0; i < left; i++) {
+            out.append(x.shorten());
+        }
+        return out.toString();
+    }
+
+    /** All that an object tells of itself; each part is asked of a new one, for the 512 calls. */
+    private static String state(Supplier<CodeSearcher> made) {
+        return text(made.get()) + " / " + words(made.get()) + " / " + answers(made.get());
     }
 
     private static void promise1NewObject() {
@@ -86,7 +115,7 @@ public final class PromiseTest {
         due("1: shorten()", x.shorten(), CodeSearcher.NONE);
         due("1: NONE", CodeSearcher.NONE, -1);
         CodeSearcher other = fed(3, 4);
-        seeking(other, 3);
+        seek(other, 3);
         due("1: codes() beside another object", x.codes(), 0);
         due("1: pattern() beside another object", x.pattern(), 0);
     }
@@ -162,21 +191,28 @@ public final class PromiseTest {
         return x;
     }
 
-    private static void promise2LongestText() {
+    private static CodeSearcher fullText() {
         CodeSearcher x = zeros(21);
-        due("2: length()", x.length(), 231);
-        String before = state(x);
-        due("2: feed(24), 22 symbols with room for 19", x.feed(24), -1);
-        due("2: feed(22), 20 symbols with room for 19", x.feed(22), -1);
-        due("2: state after refusals", state(x), before);
         due("2: feed(21), 19 symbols with room for 19", x.feed(21), 19);
-        due("2: length()", x.length(), 250);
-        due("2: words()", x.words(), 25);
-        before = state(x);
-        for (int c = 0; c < 26; c++) {
-            due("2: feed(" + c + ") when the text is full", x.feed(c), -1);
+        return x;
+    }
+
+    private static CodeSearcher afterRefusals(CodeSearcher x, int... codes) {
+        for (int c : codes) {
+            due("2: feed(" + c + ") beyond the longest text", x.feed(c), -1);
         }
-        due("2: state after refusals", state(x), before);
+        return x;
+    }
+
+    private static void promise2LongestText() {
+        due("2: length()", zeros(21).length(), 231);
+        due("2: state after 22 and 20 symbols with room for 19",
+                state(() -> afterRefusals(zeros(21), 24, 22)), state(() -> zeros(21)));
+        due("2: length()", fullText().length(), 250);
+        due("2: words()", fullText().words(), 25);
+        due("2: state after refusals when the text is full",
+                state(() -> afterRefusals(fullText(), 0, 1, 2, 3, 4, 5, 23, 24, 25, 26)), state(() -> fullText()));
+        CodeSearcher x;
         // The word being made may just fit too: 210 + 1 + 19 + 20 = 250.
         x = zeros(20);
         due("2: feed(0)", x.feed(0), 1);
@@ -202,14 +238,14 @@ public final class PromiseTest {
         due("2: length()", x.length(), 250);
         due("2: words()", x.words(), 60);
         due("2: feed(0) beyond", x.feed(0), -1);
-        seeking(x, 0);
+        seek(x, 0);
         due("2: endingIn(249)", x.endingIn(249), 1);
         due("2: endingIn(250)", x.endingIn(250), 0);
     }
 
     private static void promise3Restart() {
         CodeSearcher x = fed(0, 4, 5, 1);
-        seeking(x, 0, 1);
+        seek(x, 0, 1);
         due("3: count() before", x.count(), 1);
         x.restart();
         due("3: codes()", x.codes(), 0);
@@ -265,7 +301,7 @@ public final class PromiseTest {
     private static void promise5Shorten() {
         CodeSearcher x = new CodeSearcher();
         due("5: shorten() with none", x.shorten(), -1);
-        seeking(x, 3, 1, 2);
+        seek(x, 3, 1, 2);
         due("5: shorten()", x.shorten(), 3);
         due("5: pattern()", x.pattern(), 2);
         x.feed(1);
@@ -341,161 +377,161 @@ public final class PromiseTest {
         for (int k : noPlace) {
             due("12: symbol(" + k + ")", x.symbol(k), -1);
         }
-        x = zeros(21);
-        x.feed(21);
+        x = fullText();
         due("12: symbol(249) of a full text", x.symbol(249), 0);
         due("12: symbol(250) of a full text", x.symbol(250), -1);
     }
 
     private static void promises13To15Occurrences() {
-        CodeSearcher x = fed(0, 1, 4, 6, 3);
-        due("text", text(x), "01010103");
-        occurrences(x, 0, -1, -1);
-        occurrences(x, 4, 0, 6, 0);
-        occurrences(x, 3, 1, 5, 1);
-        occurrences(x, 1, 7, 7, 3);
-        occurrences(x, 0, -1, -1, 2);
-        occurrences(x, 3, 0, 4, 0, 1, 0);
-        occurrences(x, 2, 0, 2, 0, 1, 0, 1, 0);
-        occurrences(x, 1, 2, 2, 0, 1, 0, 1, 0, 3);
-        occurrences(x, 0, -1, -1, 3, 0);
+        due("text", text(search("01463", "")), "01010103");
+        occurrences("01463", "", 0, -1, -1);
+        occurrences("01463", "0", 4, 0, 6);
+        occurrences("01463", "1", 3, 1, 5);
+        occurrences("01463", "3", 1, 7, 7);
+        occurrences("01463", "2", 0, -1, -1);
+        occurrences("01463", "010", 3, 0, 4);
+        occurrences("01463", "01010", 2, 0, 2);
+        occurrences("01463", "010103", 1, 2, 2);
+        occurrences("01463", "30", 0, -1, -1);
+        // A pattern longer than the text, and one that is the text.
+        occurrences("00", "000", 0, -1, -1);
+        occurrences("000", "000", 1, 0, 0);
+        occurrences("000", "00", 2, 0, 1);
+        occurrences("", "0", 0, -1, -1);
+        occurrences("", "", 0, -1, -1);
         // No occurrence reaches beyond the text, even where an older text had the symbols.
+        CodeSearcher x = search("01", "01");
         x.restart();
         x.feed(0);
-        occurrences(x, 0, -1, -1, 0, 1);
-        occurrences(x, 1, 0, 0, 0);
-        // A pattern longer than the text, and one that is the text.
-        occurrences(fed(0, 0), 0, -1, -1, 0, 0, 0);
-        occurrences(fed(0, 0, 0), 1, 0, 0, 0, 0, 0);
-        occurrences(fed(0, 0, 0), 2, 0, 1, 0, 0);
-        occurrences(new CodeSearcher(), 0, -1, -1, 0);
-        occurrences(new CodeSearcher(), 0, -1, -1);
+        due("13: count() after restart", x.count(), 0);
+        due("14: first() after restart", x.first(), -1);
+        due("15: last() after restart", x.last(), -1);
     }
 
-    private static void occurrences(CodeSearcher x, int count, int first, int last, int... symbols) {
-        String what = java.util.Arrays.toString(symbols) + " in '" + text(x) + "'";
-        seeking(x, symbols);
-        due("13: count() of " + what, x.count(), count);
-        due("14: first() of " + what, x.first(), first);
-        due("15: last() of " + what, x.last(), last);
+    private static void occurrences(String codes, String pattern, int count, int first, int last) {
+        CodeSearcher x = search(codes, pattern);
+        String what = " of '" + pattern + "' with codes '" + codes + "'";
+        due("13: count()" + what, x.count(), count);
+        due("14: first()" + what, x.first(), first);
+        due("15: last()" + what, x.last(), last);
     }
 
     private static void promise16Tail() {
-        CodeSearcher x = fed(0, 1, 4, 2);
-        due("text", text(x), "01012");
-        due("16: tail() with no pattern", x.tail(), 0);
-        tail(x, 1, 2);
-        tail(x, 2, 1, 2);
-        tail(x, 1, 2, 1);
-        tail(x, 0, 0, 1);
-        tail(x, 3, 0, 1, 2);
-        tail(x, 3, 0, 1, 2, 0, 1, 2);
-        tail(x, 5, 0, 1, 0, 1, 2);
-        tail(x, 5, 0, 1, 0, 1, 2, 3);
-        tail(x, 0, 3, 2);
+        due("text", text(search("0142", "")), "01012");
+        tail("0142", "", 0);
+        tail("0142", "2", 1);
+        tail("0142", "12", 2);
+        tail("0142", "21", 1);
+        tail("0142", "01", 0);
+        tail("0142", "012", 3);
+        tail("0142", "012012", 3);
+        tail("0142", "01012", 5);
+        tail("0142", "010123", 5);
+        tail("0142", "32", 0);
         // The longest beginning counts, not the shortest.
-        tail(fed(0, 0, 0), 3, 0, 0, 0, 0);
-        tail(fed(0, 0, 0, 0), 2, 0, 0);
-        tail(fed(1, 0, 1), 3, 1, 0, 1, 1);
-        tail(fed(1), 1, 1, 1);
-        tail(fed(2), 0, 1, 2);
-        tail(new CodeSearcher(), 0, 0, 0);
+        tail("000", "0000", 3);
+        tail("0000", "00", 2);
+        tail("101", "1011", 3);
+        tail("1", "11", 1);
+        tail("2", "12", 0);
+        tail("", "00", 0);
+        tail("", "", 0);
     }
 
-    private static void tail(CodeSearcher x, int want, int... symbols) {
-        seeking(x, symbols);
-        due("16: tail() of " + java.util.Arrays.toString(symbols) + " in '" + text(x) + "'", x.tail(), want);
+    private static void tail(String codes, String pattern, int want) {
+        due("16: tail() of '" + pattern + "' with codes '" + codes + "'", search(codes, pattern).tail(), want);
     }
 
     private static void promise17Within() {
-        // The codes' symbols: 0 1 01 010 010 3
-        CodeSearcher x = fed(0, 1, 4, 6, 6, 3);
-        due("text", text(x), "01010100103");
-        due("17: within() with no pattern", x.within(), 0);
-        within(x, 1 + 1 + 2 + 2, 0);
-        within(x, 1 + 1 + 1 + 1, 1);
-        within(x, 1 + 1 + 1, 0, 1);
-        within(x, 1 + 1, 1, 0);
-        within(x, 2, 0, 1, 0);
-        within(x, 0, 0, 1, 0, 1);
-        within(x, 0, 0, 0);
-        within(x, 1, 3);
-        within(x, 0, 0, 3);
-        within(x, 0, 2);
-        // Several, overlapping, in one code: 0 00 000
-        within(fed(0, 4, 5), 1 + 2, 0, 0);
-        within(fed(0, 4, 5), 1, 0, 0, 0);
-        within(new CodeSearcher(), 0, 0);
+        // The codes stand for 0 1 01 010 010 3.
+        due("text", text(search("014663", "")), "01010100103");
+        within("014663", "", 0);
+        within("014663", "0", 1 + 1 + 2 + 2);
+        within("014663", "1", 1 + 1 + 1 + 1);
+        within("014663", "01", 1 + 1 + 1);
+        within("014663", "10", 1 + 1);
+        within("014663", "010", 1 + 1);
+        within("014663", "0101", 0);
+        within("014663", "00", 0);
+        within("014663", "3", 1);
+        within("014663", "03", 0);
+        within("014663", "2", 0);
+        // Several in one code, that overlap: the codes stand for 0 00 000.
+        within("045", "00", 1 + 2);
+        within("045", "000", 1);
+        within("045", "0000", 0);
+        within("", "0", 0);
     }
 
-    private static void within(CodeSearcher x, int want, int... symbols) {
-        seeking(x, symbols);
-        due("17: within() of " + java.util.Arrays.toString(symbols) + " in '" + text(x) + "'", x.within(), want);
+    private static void within(String codes, String pattern, int want) {
+        due("17: within() of '" + pattern + "' with codes '" + codes + "'", search(codes, pattern).within(), want);
     }
 
     private static void promise18EndingIn() {
-        // The codes' symbols: 0 1 01 010 010 3
-        CodeSearcher x = fed(0, 1, 4, 6, 6, 3);
-        endingIn(x, "000000");
-        endingIn(x, "101220", 0);
-        endingIn(x, "011110", 0, 1);
-        endingIn(x, "001210", 0, 1, 0);
-        endingIn(x, "000010", 0, 0);
-        endingIn(x, "000001", 0, 3);
-        endingIn(x, "000001", 0, 0, 1, 0, 3);
-        endingIn(x, "000000", 2);
+        // The codes stand for 0 1 01 010 010 3.
+        endingIn("014663", "", "000000");
+        endingIn("014663", "0", "101220");
+        endingIn("014663", "01", "011110");
+        endingIn("014663", "010", "001210");
+        endingIn("014663", "00", "000010");
+        endingIn("014663", "03", "000001");
+        endingIn("014663", "00103", "000001");
+        endingIn("014663", "2", "000000");
         // An occurrence may begin several codes before the one that it ends in.
-        endingIn(fed(0, 1, 2, 3), "0001", 0, 1, 2, 3);
-        endingIn(new CodeSearcher(), "", 0);
+        endingIn("0123", "0123", "0001");
+        endingIn("", "0", "");
     }
 
-    private static void endingIn(CodeSearcher x, String want, int... symbols) {
-        seeking(x, symbols);
-        String what = " of " + java.util.Arrays.toString(symbols) + " in '" + text(x) + "'";
+    private static void endingIn(String codes, String pattern, String want) {
+        CodeSearcher x = search(codes, pattern);
+        String what = " of '" + pattern + "' with codes '" + codes + "'";
         for (int k = 0; k < want.length(); k++) {
             due("18: endingIn(" + k + ")" + what, x.endingIn(k), want.charAt(k) - '0');
         }
-        int[] noCode = {Integer.MIN_VALUE, -1, x.codes(), x.codes() + 1, 249, 250, 251, Integer.MAX_VALUE};
+        int size = want.length();
+        int[] noCode = {Integer.MIN_VALUE, -1, size, size + 1, 249, 250, 251, Integer.MAX_VALUE};
         for (int k : noCode) {
             due("18: endingIn(" + k + ")" + what, x.endingIn(k), 0);
         }
     }
 
     private static void promise19RefusalsChangeNothing() {
-        CodeSearcher empty = new CodeSearcher();
-        refusals(empty, 4);
-        due("19: shorten()", empty.shorten(), -1);
-        due("19: state", state(empty), state(new CodeSearcher()));
-        CodeSearcher x = fed(0, 1, 4, 6, 3);
-        seeking(x, 0, 1, 0);
-        refusals(x, x.words() + 1);
-        seeking(x, 0, 1, 0, 1, 0, 3);
-        String before = state(x);
-        due("19: extend(1) with six", x.extend(1), false);
-        due("19: state after extend(1) with six", state(x), before);
-        refusals(x, x.words() + 1);
+        refusalsChangeNothing("", "", 4);
+        refusalsChangeNothing("", "210", 4);
+        refusalsChangeNothing("01463", "", 9);
+        refusalsChangeNothing("01463", "010", 9);
+        refusalsChangeNothing("01463", "010103", 9);
+        CodeSearcher x = refused(search("01463", "03"), 9);
         due("19: feed goes on as if nothing was refused", x.feed(8), 2);
         due("19: text", text(x), "0101010333");
+        due("19: count()", x.count(), 1);
     }
 
-    private static void refusals(CodeSearcher x, int leastRefused) {
-        String before = state(x);
+    private static void refusalsChangeNothing(String codes, String pattern, int leastRefused) {
+        due("19: state of '" + pattern + "' with codes '" + codes + "'",
+                state(() -> refused(search(codes, pattern), leastRefused)), state(() -> search(codes, pattern)));
+    }
+
+    private static CodeSearcher refused(CodeSearcher x, int leastRefused) {
         int[] codes = {Integer.MIN_VALUE, -1, leastRefused, leastRefused + 1, 250, Integer.MAX_VALUE};
         for (int c : codes) {
             due("19: feed(" + c + ")", x.feed(c), -1);
-            due("19: state after feed(" + c + ")", state(x), before);
         }
         int[] symbols = {Integer.MIN_VALUE, -1, 4, Integer.MAX_VALUE};
         for (int s : symbols) {
             due("19: extend(" + s + ")", x.extend(s), false);
-            due("19: state after extend(" + s + ")", state(x), before);
         }
-        x.wordLength(-1);
-        x.wordSymbol(-1, -1);
-        x.wordSymbol(0, 1);
-        x.symbol(-1);
-        x.endingIn(-1);
-        due("19: state after questions that are refused", state(x), before);
+        if (x.pattern() == 6) {
+            due("19: extend(1) with six", x.extend(1), false);
+        }
+        if (x.pattern() == 0) {
+            due("19: shorten() with none", x.shorten(), -1);
+        }
+        due("19: wordLength(-1)", x.wordLength(-1), -1);
+        due("19: wordSymbol(-1, 0)", x.wordSymbol(-1, 0), -1);
+        due("19: wordSymbol(0, 1)", x.wordSymbol(0, 1), -1);
+        due("19: symbol(-1)", x.symbol(-1), -1);
+        return x;
     }
 
     public static void main(String[] args) {
