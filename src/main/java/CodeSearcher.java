@@ -137,7 +137,8 @@ public final class CodeSearcher {
     public int within() {
         int found = 0;
         for (int k = 0; k < codeCount; k++) {
-            found += occurrencesFrom(codeStart[k], codeEnd(k) - soughtSize);
+            int end = codeEnd(k);
+            found += occurrencesFrom(codeStart[k], end - soughtSize);
         }
         return found;
     }
@@ -146,8 +147,9 @@ public final class CodeSearcher {
         if (k < 0 || k >= codeCount) {
             return 0;
         }
+        int end = codeEnd(k);
         // An occurrence at p has its last symbol at p + soughtSize - 1.
-        return occurrencesFrom(codeStart[k] - soughtSize + 1, codeEnd(k) - soughtSize);
+        return occurrencesFrom(codeStart[k] - soughtSize + 1, end - soughtSize);
     }
 
     private boolean isSymbol(int s) {
