@@ -213,6 +213,7 @@ public final class CodeSearcher {
         return found;
     }
 
+    /** An occurrence needs a pattern, though its empty beginning would stand everywhere. */
     private boolean occursAt(int p) {
         return soughtSize > 0 && beginningStandsAt(p, soughtSize);
     }

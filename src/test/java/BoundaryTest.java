@@ -1064,10 +1064,15 @@ public final class BoundaryTest {
         due("within() of 2 in 01010103", made(ORDINARY, 2).within(), 0);
     }
 
-    /** The sentence names no answer with no pattern; with none there is no occurrence to count. */
+    /** By the terms an occurrence is where the pattern stands: with no pattern there is none. */
     private static void withinWithNoPattern() {
         due("within() of a new object", new CodeSearcher().within(), 0);
         due("within() with a text", made(ORDINARY).within(), 0);
+        due("within() with a full text", made(fullText()).within(), 0);
+        CodeSearcher x = made(ORDINARY, 0);
+        due("within() of 0", x.within(), 4);
+        x.shorten();
+        due("within() when the pattern is away", x.within(), 0);
     }
 
     private static void withinAFullText() {
@@ -1132,11 +1137,17 @@ public final class BoundaryTest {
         due("endingIn(1) of 000000 in 0, 00, 000", made(growing(3), 0, 0, 0, 0, 0, 0).endingIn(1), 0);
     }
 
-    /** The sentence names no answer with no pattern; with none there is no occurrence to count. */
+    /** By the terms an occurrence is where the pattern stands: with no pattern there is none. */
     private static void endingInWithNoPattern() {
         for (int k = -1; k <= 5; k++) {
             due("endingIn(" + k + ")", made(ORDINARY).endingIn(k), 0);
         }
+        due("endingIn(0) of a new object", new CodeSearcher().endingIn(0), 0);
+        due("endingIn(20) with a full text", made(fullText()).endingIn(20), 0);
+        CodeSearcher x = made(ORDINARY, 0);
+        due("endingIn(3) of 0", x.endingIn(3), 2);
+        x.shorten();
+        due("endingIn(3) when the pattern is away", x.endingIn(3), 0);
     }
 
     // Promise 19.

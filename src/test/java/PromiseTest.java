@@ -534,6 +534,32 @@ public final class PromiseTest {
         return x;
     }
 
+    /** The same calls as in README.md, so that what it says stays true. */
+    private static void readmeExample() {
+        CodeSearcher x = new CodeSearcher();
+        due("README: feed(0)", x.feed(0), 1);
+        due("README: feed(1)", x.feed(1), 1);
+        due("README: word 4", word(x, 4), "01");
+        due("README: feed(4)", x.feed(4), 2);
+        due("README: word 5", word(x, 5), "10");
+        due("README: feed(6)", x.feed(6), 3);
+        due("README: word 6", word(x, 6), "010");
+        due("README: text", text(x), "0101010");
+        due("README: feed(9)", x.feed(9), CodeSearcher.NONE);
+        due("README: extend(0)", x.extend(0), true);
+        due("README: extend(1)", x.extend(1), true);
+        due("README: count()", x.count(), 3);
+        due("README: first()", x.first(), 0);
+        due("README: last()", x.last(), 4);
+        due("README: tail()", x.tail(), 1);
+        due("README: within()", x.within(), 2);
+        due("README: endingIn(1)", x.endingIn(1), 1);
+        due("README: shorten()", x.shorten(), 0);
+        x.restart();
+        due("README: codes()", x.codes(), 0);
+        due("README: pattern()", x.pattern(), 1);
+    }
+
     public static void main(String[] args) {
         promise1NewObject();
         promise2FirstCode();
@@ -553,6 +579,7 @@ public final class PromiseTest {
         promise17Within();
         promise18EndingIn();
         promise19RefusalsChangeNothing();
+        readmeExample();
         System.out.println(wrong == 0 ? "all promises hold" : wrong + " answers are not as due");
         if (wrong != 0) {
             System.exit(1);
